@@ -28,7 +28,6 @@ public final class FewChanges {
         shop = newShop;
         plan = newPlan;
         before = new Plan();
-        undoable = false;
         copies = new Plan[COPIES];
         for (int copy = 0; copy < COPIES; copy++) {
             copies[copy] = new Plan();
@@ -423,7 +422,6 @@ public final class FewChanges {
             old = plan;
             trial = new Plan();
             best = new Plan();
-            bestCost = NO_PLAN;
             taken = new long[UNITS];
         }
 

@@ -178,24 +178,23 @@ public final class ReplanningTest {
         told("10: the old place", x, 0, 38 + 19, 2, 3);
     }
 
-    /** Heat 0 is hit and has room when heat 1 or heat 2 goes; {0, 1} finds a plan that costs nothing. */
+    /** Heat 2 is late where it stands, so {0, 2} is better than {0, 1}, which comes first. */
     private static void latenessOfThoseThatStay() {
-        FewChanges x = new FewChanges();
-        x.order(0, 200);
-        x.order(0, 20);
-        x.heat(0, 20, 6, 1, 0);
-        x.heat(0, 20, 7, 1, 20);
-        x.heat(1, 20, 7, 2, 0);
-        x.stop(1, 0, 1);
-        x.stop(1, 41, 60);
-        x.stop(2, 20, 60);
-        check.due("9: who goes", () -> x.run(100000), 2);
-        check.due("9: cost", x::cost, 0);
-        stands("9: who goes", x, 0, 1, 1);
-        stands("9: who goes", x, 1, 0, 0);
-        // {0, 1}: heat 0 has 1 .. 21 on unit 1; of these the first finds a plan of cost 0 by unit 0's 41 places
-        // and unit 1's one, 21. {0, 2} is passed over.
-        told("10: who goes", x, 0, 21 + 41 + 1, 2, 3);
+        FewChanges x = crowded();
+        x.order(0, 5);
+        x.divert(2, 1);
+        check.due("9: who stays", () -> x.run(24 + 77), 2);
+        told("10: {0, 1} alone", x, 1, 24 + 77, 2, 3);
+        check.due("9: cost of {0, 1}", x::cost, 49);
+        x.undo();
+        check.due("9: who stays", () -> x.run(100000), 2);
+        check.due("9: cost of {0, 2}", x::cost, 0);
+        // {0, 1}: as in twoHeats(), for 49. {0, 2}: heat 0 has 30 .. 40; behind the first of these heat 2 has 6 .. 20
+        // and 50 .. 55 on unit 0, and all of unit 2, where minute 0 costs nothing.
+        told("10: who stays", x, 0, 24 + 77 + 11 + 15 + 6 + 56, 2, 5);
+        stands("9: who stays", x, 0, 0, 30);
+        stands("9: who stays", x, 1, 0, 25);
+        stands("9: who stays", x, 2, 2, 0);
     }
 
     private static void frozenHeatsStay() {
