@@ -4,7 +4,7 @@ import java.util.Random;
 public final class ModelTest {
     private static final int RUNS = 3000;
     /** With told() behind each run() and the look at the end an object stays under the document's 512 calls. */
-    private static final int CALLS = 280;
+    private static final int CALLS = 240;
     private static final Check check = new Check("ModelTest");
 
     private final Random random;
