@@ -379,7 +379,8 @@ public final class FewChanges {
         }
 
         int lateness(int heat, int order, int minute) {
-            return Math.max(0, minute + length[heat] - due[order]);
+            int behind = minute + length[heat] - due[order];
+            return behind > 0 ? behind : 0;
         }
 
         boolean fits(Plan plan, int heat, int unit, int minute) {

@@ -24,6 +24,7 @@ public final class BoundsOfCopiesTest {
         undoTheLatest();
         undoOfEach();
         undoSeesRunsThatChangedSomething();
+        undoSeesCallsThatChangedNothing();
         undoSeesCallsThatWereDone();
         undoSeesTheFourCallsOnly();
         undoBringsBackWhatWasAhead();
@@ -381,6 +382,23 @@ public final class BoundsOfCopiesTest {
         check.refused("once", x::undo, Check.TURN);
     }
 
+    /** Only of run() is it asked that it changed something. */
+    private static void undoSeesCallsThatChangedNothing() {
+        check.sentence("Terms: call that was done of place(), divert(), use() (whether it changed something or not)");
+        FewChanges x = sixHeats();
+        x.divert(0, 1);
+        check.done("place() where the heat is", () -> x.place(0, 0, 0));
+        check.done("undo() of that place()", x::undo);
+        check.due("not of the divert()", () -> x.at(0, 2), 1);
+        check.refused("once", x::undo, Check.TURN);
+        x.divert(0, 0);
+        x.keep(2);
+        check.done("use() of an equal copy", () -> x.use(2));
+        check.done("undo() of that use()", x::undo);
+        check.due("not of the divert()", () -> x.at(0, 2), 0);
+        check.refused("once", x::undo, Check.TURN);
+    }
+
     private static void undoSeesCallsThatWereDone() {
         check.sentence("Terms: call that was done (not refused)");
         FewChanges x = sixHeats();
@@ -408,7 +426,7 @@ public final class BoundsOfCopiesTest {
         x.stop(2, 0, 1);
         x.go();
         x.stop(2, 0, 60);
-        x.clock(60, 60);
+        x.clock(20, 20);
         x.keep(0);
         x.compare(0);
         x.cost();
@@ -418,7 +436,8 @@ public final class BoundsOfCopiesTest {
         check.due("undone", () -> x.at(0, 0), 0);
         check.due("the order stands", () -> x.order(4, 0), 3);
         check.due("the stop stands", () -> x.stop(2, 0, 60), 2);
-        check.due("the clock stands", () -> x.at(0, 4), 1);
+        check.due("now and the freeze stand, minute 30 is ahead of both together", () -> x.at(3, 4), 1);
+        check.due("now and the freeze stand, minute 40 is not", () -> x.at(4, 4), 0);
         check.due("the copy stands", () -> x.compare(0), 1);
     }
 
